@@ -121,6 +121,7 @@ public final class LandTest {
         Due.are("soils", new long[] {x.acre(0, 0), x.acre(10, 0), x.acre(1, 0), x.acre(11, 0), x.acre(2, 0),
             x.acre(12, 0)}, 9, 0, 1, 2, 7, 1);
         Due.is("no road any more", x.road(0, 10, 0), 0);
+        Due.is("ways on the new land", x.way(2, 10), 9 + 9 + 9);
         Due.are("row and uses", new long[] {x.count(9), x.count(3)}, 1, 2);
         Due.is("no market has a price", x.price(0, 0, 1), -1);
         Due.are("markets", new long[] {x.market(2), x.market(12)}, 0, 1);
@@ -161,6 +162,12 @@ public final class LandTest {
         Due.is("way up", x.way(0, 10), 10);
         Due.is("none any more, told from the other side", x.road(0, 10, 0), 3);
         Due.are("none", new long[] {x.count(4), x.way(10, 0), x.way(0, 10)}, 0, 10, 10);
+        MarketRings y = Due.land("00000000/00000000/00000000");
+        y.road(72, 71, 2);
+        Due.is("a rail in the last corner", y.way(71, 72), 3);
+        Due.feed(y, "00000000/00000000/00000000");
+        y.read();
+        Due.is("not on the next land", y.way(71, 72), 10);
         Due.is("one downwards", x.road(11, 10, 1), 0);
         Due.is("upwards the same", x.road(10, 11, 1), 1);
     }
@@ -206,6 +213,10 @@ public final class LandTest {
         x.road(0, 10, 3);
         Due.are("by river", new long[] {x.way(0, 10), x.way(10, 0)}, 7, 99);
         Due.are("what it was", new long[] {x.step(0, 10), x.step(1, 6), x.step(2, 3), x.step(3, 2)}, 99, 1, 50, 7);
+        Due.are("by river again", new long[] {x.way(0, 10), x.way(10, 0)}, 2, 10);
+        x.step(3, 9);
+        Due.is("at once", x.way(0, 10), 9);
+        x.step(3, 2);
         Due.are("another kind", new long[] {x.step(4, 5), x.step(-1, 5), x.step(9, 0)}, -2, -2, -2);
         Due.are("below", new long[] {x.step(0, 0), x.step(3, Integer.MIN_VALUE)}, -4, -4);
         Due.are("above", new long[] {x.step(0, 100), x.step(3, Integer.MAX_VALUE)}, -6, -6);

@@ -147,6 +147,19 @@ public final class RingsTest {
         y.price(0, 0, 9);
         rings("without end", y, 0, 0);
         edge(y, 0, 0, -9, 1);
+        y.tax(0, 6);
+        y.use(0, 1, 0, 0, 99);
+        y.price(1, 0, 100);
+        // 10000 less 99 d ends at 10000 by 99, within the ring of the 300 without end.
+        rings("without end behind", y, 0, 1, 0);
+        edge(y, 0, 0, 9700, 99);
+        edge(y, 0, 1, -9, 1);
+        MarketRings z = new MarketRings();
+        z.market(0);
+        z.use(0, 2, 0, 1, 99);
+        z.price(0, 0, 1);
+        rings("less than 1", z, 0, 0);
+        edge(z, 0, 0, 50, 99);
     }
 
     private static void tiesAndGaps() {

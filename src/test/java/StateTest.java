@@ -108,9 +108,11 @@ public final class StateTest {
         x.price(0, 0, 9);
         x.image();
         x.price(0, 0, 0);
+        Due.is("no rents", x.rent(-1), 0);
         Due.is("on", x.on(), 2);
         Due.is("rents", x.rent(-1), 1790);
         x.price(0, 0, 5);
+        Due.is("other rents", x.rent(-1), 990);
         Due.is("on once more", x.on(), 2);
         Due.is("rents once more", x.rent(-1), 1790);
         x.price(0, 0, 4);
@@ -126,15 +128,45 @@ public final class StateTest {
     private static void promise37OfARead() {
         MarketRings x = Due.land("00/00/00");
         x.market(12);
-        x.plan(12, 11, 2, 0);
+        x.market(1);
+        x.use(0, 1, 0, 0, 1);
+        x.price(0, 0, 5);
+        x.plan(2, 12, 2, 0);
+        x.plan(0, 1, 3, 9);
+        x.road(11, 12, 3);
         x.own(12, 3);
+        x.step(2, 4);
+        x.step(3, 5);
         x.image();
-        Due.feed(x, "9");
-        Due.is("another land", x.read(), 1);
+        Due.are("gains", new long[] {x.gain(0), x.gain(1), x.best(99999)}, 8, 5 - 900, 3);
+        Due.feed(x, "9999");
+        Due.is("another land", x.read(), 4);
+        x.market(30);
+        x.market(20);
+        x.step(2, 44);
+        x.step(3, 55);
+        for (int i = 0; i < 3; i++) {
+            x.plan(10 * i + 10, 10 * i, 1, 77);
+        }
+        Due.are("judged there", new long[] {x.judge(), x.rent(-1)}, 0, 4 * 500 - 60);
         Due.is("on", x.on(), 6);
         Due.are("as then", new long[] {x.count(0), x.count(1), x.count(2), x.count(5), x.acre(0, 0), x.acre(12, 3),
-            x.acre(12, 4), x.way(0, 12)}, 2, 3, 1, 1, 0, 3, 0, 30);
+            x.acre(12, 4), x.acre(1, 4), x.way(0, 12), x.way(11, 12)}, 2, 3, 2, 2, 0, 3, 0, 1, 25, 5);
+        Due.are("gains as then", new long[] {x.gain(0), x.gain(1), x.best(99999)}, 8, 5 - 900, 3);
+        Due.are("steps as then", new long[] {x.step(0, 10), x.step(1, 6), x.step(2, 3), x.step(3, 2)}, 10, 6, 4, 5);
+        x.put(0);
+        x.put(0);
+        x.put(0);
+        Due.is("acres by line", x.judge(), 11);
         Due.is("image of another land", x.image(), 6);
+        MarketRings y = Due.land("00000000/00000000/00000000/00000000/00000000/00000000");
+        y.road(75, 65, 3);
+        y.step(3, 1);
+        Due.is("a wide one", y.image(), 48);
+        y.road(75, 65, 1);
+        y.step(3, 2);
+        y.on();
+        Due.are("its last corner", new long[] {y.way(75, 65), y.way(65, 75)}, 1, 10);
     }
 
     private static void promise38Count() {

@@ -103,6 +103,16 @@ public final class TradeTest {
         Due.is("even bids go to the lesser use than 2", x.clears(2, 1), 8);
         x.tax(2, 3);
         Due.is("a tax is paid first", x.clears(2, 1), 11);
+        MarketRings y = Due.land("00");
+        y.market(0);
+        y.held(0, true);
+        y.step(0, 1);
+        y.use(0, 1, 0, 0, 0);
+        y.use(0, 1, 0, 0, 99);
+        y.piece(1, 0, 1, 999);
+        Due.is("a bid of 1 is enough", y.clears(1, 0), 1);
+        y.price(0, 0, 5);
+        Due.is("501 is more than 500", y.clears(1, 0), 6);
     }
 
     private static void promise20ClearsOddUses() {
@@ -136,6 +146,7 @@ public final class TradeTest {
         Due.is("and none has another price", x.price(0, 0, 3), 0);
         x.piece(0, 0, 5, 999);
         Due.is("one changes, one does not", x.rounds(20), 2);
+        Due.are("known at once", new long[] {x.comes(0, 0), x.goes(20, 0)}, 6, 0);
         Due.is("the price that clears", x.price(0, 0, 3), 20);
         Due.is("one only", x.rounds(1), 1);
         Due.is("it changed", x.price(0, 0, 20), 20);
@@ -143,7 +154,6 @@ public final class TradeTest {
         x.piece(0, 0, 9, 999);
         Due.is("none clears", x.rounds(7), 1);
         Due.is("the price stays", x.price(0, 0, 20), 20);
-        Due.are("who comes is known at once", new long[] {x.comes(0, 0), x.goes(20, 0)}, 6, 0);
         Due.are("out of bounds", new long[] {x.rounds(0), x.rounds(21), x.rounds(-5)}, -4, -6, -4);
     }
 
@@ -174,7 +184,11 @@ public final class TradeTest {
         x.use(0, 1, 0, 0, 0);
         x.piece(1, 0, 1, 20);
         // Acre 10 pays 200 to use 0 and acre 0 pays none: use 1 gets it at 1.
+        x.use(0, 9, 0, 0, 0);
+        x.price(2, 0, 0);
         Due.is("use 1 clears at once", x.rounds(3), 2);
+        Due.is("use 2 has no pieces", x.price(2, 0, 5), 0);
+        x.price(2, 0, 0);
         Due.are("prices", new long[] {x.price(0, 0, 0), x.price(1, 0, 0)}, 1, 1);
     }
 
@@ -212,16 +226,22 @@ public final class TradeTest {
         // For 0: 2000 without, 0 when its only one is held.
         Due.is("of owner 0", x.hold(0), -9);
         Due.is("of an owner of none", x.hold(3), -9);
+        Due.are("and then as before", new long[] {x.bid(0, 0, 0), x.bid(0, 20, 0), x.rent(-1), x.hold(2)},
+            6000, 6000 - 3960, 18000 - 5940, 10);
         MarketRings y = Due.land("000/000");
         y.market(10);
+        y.use(5, 0, 0, 0, 0);
         y.use(0, 1, 0, 0, 0);
-        y.price(0, 0, 1);
+        y.price(1, 0, 1);
         for (int xy : new int[] {0, 1, 10, 11, 20, 21}) {
             y.own(xy, 0);
         }
-        y.piece(0, 0, 6, 9);
-        // All alike: none held 1 each; one held: 10 each of the five.
+        y.piece(1, 0, 5, 9);
+        // All alike: none held 1 each; one held 1 each, too. With one more wanted it clears at 1, or else at 10.
+        Due.is("as many as are wanted are left", y.hold(0), -9);
+        y.piece(1, 0, 1, 9);
         Due.is("of even ones the first", y.hold(0), 0);
+        Due.are("bids are as before", new long[] {y.bid(1, 0, 0), y.rent(-1), y.price(1, 0, 1)}, 100, 600, 1);
         y.own(0, -1);
         Due.is("the first by 10 x and y", y.hold(0), 1);
     }

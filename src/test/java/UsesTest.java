@@ -177,7 +177,9 @@ public final class UsesTest {
         Due.refuses("no market", x.bid(0, 0, 0), -1);
         x.market(0);
         Due.is("all are", x.bid(0, 0, 0), 0);
-        Due.refuses("no use", x.bid(1, 0, 0), -1);
+        x.use(0, 1, 0, 5, 0);
+        Due.is("of a use that is just told", x.bid(1, 0, 0), -500);
+        Due.refuses("no use", x.bid(2, 0, 0), -1);
         Due.refuses("no use below", x.bid(-1, 0, 0), -1);
         Due.refuses("no acre", x.bid(0, 1, 0), -1);
         Due.refuses("no market 1", x.bid(0, 0, 1), -1);
@@ -200,6 +202,15 @@ public final class UsesTest {
         x.price(1, 1, 0);
         Due.are("a bid of 0 gets none", new long[] {x.goes(20, 0), x.goes(20, 1), x.goes(30, 0), x.count(6)},
             -9, -9, -9, 2);
+        MarketRings y = Due.land("00");
+        y.market(0);
+        y.step(0, 1);
+        y.use(0, 1, 0, 0, 99);
+        y.use(0, 1, 0, 0, 98);
+        y.price(0, 0, 1);
+        Due.are("a bid of 1 gets it", new long[] {y.bid(0, 10, 0), y.goes(10, 0), y.goes(0, 0)}, 1, 0, 0);
+        y.price(1, 0, 1);
+        Due.are("2 is more than 1", new long[] {y.goes(10, 0), y.goes(0, 0)}, 1, 0);
         x.held(10, true);
         Due.are("held", new long[] {x.goes(10, 0), x.goes(10, 1), x.goes(0, 0), x.count(6)}, -9, -9, 0, 3);
         Due.are("no acre", new long[] {x.goes(1, 0), x.goes(-1, 2)}, -1, -1);
@@ -297,6 +308,8 @@ public final class UsesTest {
         x.price(1, 1, 9);
         // Line 0 goes 0 0 0 1, line 1 goes 0 0 1 1.
         Due.is("two markets", x.borders(), 3);
+        x.held(0, true);
+        Due.is("one by one", x.borders(), 3);
         x.held(20, true);
         Due.is("waste has no market", x.borders(), 1);
         x.price(0, 1, 9);
