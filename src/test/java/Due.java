@@ -6,6 +6,17 @@ final class Due {
     private Due() {
     }
 
+    static int wrong() {
+        return wrong;
+    }
+
+    static void isTrue(String what, boolean holds) {
+        if (!holds) {
+            wrong++;
+            System.out.println(what);
+        }
+    }
+
     static void is(String what, long got, long due) {
         if (got != due) {
             wrong++;

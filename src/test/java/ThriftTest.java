@@ -8,15 +8,17 @@ import java.util.Deque;
 import java.util.IdentityHashMap;
 import java.util.Set;
 
-/** All rows are made with the object: it is small, and no call makes any more. */
+/** All calls of one run live in one room: 600,000 objects, and 7.3 million fields and elements in all. */
 public final class ThriftTest {
-    private static final int MOST_OBJECTS = 120;
-    private static final int MOST_ELEMENTS = 8000;
+    private static final long ROOM_OBJECTS = 600_000;
+    private static final long ROOM_ELEMENTS = 7_300_000;
+    /** How many objects a run may make at least, as a test makes many of them. */
+    private static final int MANY = 400;
+    private static final int MOST_CALLS = 512;
 
     public static void main(String[] args) throws IllegalAccessException {
-        MarketRings x = new MarketRings();
-        boolean fine = isSmall(x);
-        fine &= makesNothing();
+        boolean fine = isSmall(new MarketRings());
+        fine &= makesLittle();
         if (!fine) {
             System.exit(1);
         }
@@ -45,7 +47,7 @@ public final class ThriftTest {
                 }
             }
         }
-        boolean small = seen.size() <= MOST_OBJECTS && elements <= MOST_ELEMENTS;
+        boolean small = seen.size() <= ROOM_OBJECTS / MANY && elements <= ROOM_ELEMENTS / MANY;
         if (!small) {
             System.out.println("a new object has " + seen.size() + " objects and " + elements + " elements");
         }
@@ -56,20 +58,23 @@ public final class ThriftTest {
         return ((com.sun.management.ThreadMXBean) ManagementFactory.getThreadMXBean()).getCurrentThreadAllocatedBytes();
     }
 
-    private static boolean makesNothing() {
+    /** The dearest calls of a run, on a land with all there is room for, in bytes of eight for each element. */
+    private static boolean makesLittle() {
         MarketRings x = new MarketRings();
         long sum = allCalls(x);
         long before = made();
-        long nothing = made() - before;
-        before = made();
-        for (int i = 0; i < 20; i++) {
+        for (int i = 0; i < MOST_CALLS / 4; i++) {
+            sum += x.best(99999) + x.hold(1) + x.rounds(20) + x.falls(0, 9999);
+        }
+        for (int i = 0; i < 2; i++) {
             sum += allCalls(x);
         }
-        long made = made() - before - nothing;
-        if (made > 0) {
+        long made = made() - before;
+        boolean little = made <= 8 * ROOM_ELEMENTS + 16 * ROOM_OBJECTS;
+        if (!little) {
             System.out.println("calls made " + made + " bytes (" + sum + ")");
         }
-        return made <= 0;
+        return little;
     }
 
     private static long allCalls(MarketRings x) {
