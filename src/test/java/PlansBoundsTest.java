@@ -268,6 +268,19 @@ public final class PlansBoundsTest {
         Due.is("the second alone", y.best(99), 2);
     }
 
+    private static void promise28BuiltByTheOrderOfNumbers() {
+        MarketRings x = line();
+        x.plan(10, 0, 2, 0);
+        x.plan(0, 10, 3, 0);
+        // Built behind the rail, the river takes its place, and it helps none who goes to the market.
+        Due.is("the rail alone", x.best(0), 1);
+        MarketRings y = line();
+        y.plan(30, 20, 1, 1);
+        y.plan(10, 0, 1, 1);
+        y.plan(10, 0, 2, 0);
+        Due.is("the road and then the rail are as good as the rail", y.best(9), 5);
+    }
+
     private static void promise28EightPlans() {
         MarketRings x = Due.land("00000000/00000000");
         x.market(0);

@@ -447,6 +447,21 @@ public final class UsesBoundsTest {
         Due.are("by the lesser toll, not by rail", new long[] {x.bid(0, 0, 0), x.way(0, 11)}, -23, 15);
     }
 
+    private static void promise14OneWalksAndOneGoesByRoadsToEachMarket() {
+        MarketRings x = Due.land("000");
+        x.market(0);
+        x.market(10);
+        x.market(20);
+        x.use(0, 1, 0, 0, 1);
+        x.use(1, 1, 0, 0, 2);
+        x.road(20, 10, 2);
+        x.road(10, 0, 1);
+        Due.are("by roads from 20", new long[] {x.bid(0, 20, 0), x.bid(0, 20, 1), x.bid(0, 20, 2)}, -9, -3, 0);
+        Due.are("on foot from 20", new long[] {x.bid(1, 20, 0), x.bid(1, 20, 1), x.bid(1, 20, 2)}, -20, -10, 0);
+        Due.are("from 10", new long[] {x.bid(0, 10, 0), x.bid(1, 10, 0), x.bid(0, 10, 2), x.bid(1, 10, 2)}, -6, -10, -3, -10);
+        Due.are("from 0", new long[] {x.bid(0, 0, 2), x.bid(1, 0, 2), x.bid(0, 0, 1), x.bid(1, 0, 1)}, -9, -20, -6, -10);
+    }
+
     private static void promise14WalkingIsNotBoundBy60() {
         MarketRings x = line(8, 0);
         x.use(1, 1, 0, 0, 2);
@@ -863,6 +878,21 @@ public final class UsesBoundsTest {
         x.price(0, 0, 9);
         x.price(0, 1, 9);
         Due.is("one", x.borders(), 1);
+    }
+
+    private static void promise25WhicheverMarketComesFirst() {
+        MarketRings x = Due.land("000");
+        x.market(20);
+        x.market(10);
+        x.market(0);
+        x.use(0, 1, 0, 0, 1);
+        x.use(0, 1, 0, 0, 1);
+        for (int market = 0; market < 3; market++) {
+            x.price(1, market, 9);
+        }
+        Due.are("2, 1, 0", new long[] {x.goes(0, 1), x.goes(10, 1), x.goes(20, 1), x.borders()}, 2, 1, 0, 2);
+        x.price(0, 2, 9);
+        Due.are("with another use", new long[] {x.goes(0, 0), x.goes(10, 0), x.borders()}, 0, 1, 2);
     }
 
     private static void promise25AsManyAsCanBe() {
