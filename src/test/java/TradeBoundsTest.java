@@ -609,6 +609,19 @@ public final class TradeBoundsTest {
             0, 700, 1, 1, -9);
     }
 
+    private static void promise22WalkingWithHalfTheFareCut() {
+        int[] fares = {1, 2, 3, 5, 98, 99};
+        long[] halves = {0, 1, 1, 2, 49, 49};
+        for (int i = 0; i < fares.length; i++) {
+            MarketRings x = new MarketRings();
+            x.market(0);
+            x.use(1, 1, 0, 0, fares[i]);
+            x.price(0, 0, 49);
+            long end = halves[i] == 0 ? -9 : 4900 / halves[i];
+            Due.are("fare " + fares[i], new long[] {x.ring(0, 0), x.edge(0, 0, 0), x.edge(0, 0, 1)}, 0, end, 1);
+        }
+    }
+
     // Promise 23: edges.
 
     private static void promise23BothParts() {

@@ -893,6 +893,8 @@ public final class UsesBoundsTest {
         Due.are("2, 1, 0", new long[] {x.goes(0, 1), x.goes(10, 1), x.goes(20, 1), x.borders()}, 2, 1, 0, 2);
         x.price(0, 2, 9);
         Due.are("with another use", new long[] {x.goes(0, 0), x.goes(10, 0), x.borders()}, 0, 1, 2);
+        x.price(0, 0, 9);
+        Due.are("the last acre by the first use", new long[] {x.goes(20, 0), x.goes(20, 1), x.borders()}, 0, 0, 2);
     }
 
     private static void promise25AsManyAsCanBe() {
@@ -953,6 +955,22 @@ public final class UsesBoundsTest {
         x.price(0, 1, 5);
         // 400 and 300 at market 0, 400 and 500 at market 1.
         Due.are("fewer", new long[] {x.falls(0, 2), x.falls(0, 3), x.falls(0, 4), x.falls(0, 5)}, 0, 1, 3, 4);
+    }
+
+    private static void promise30OfEachUseAtEachMarket() {
+        for (int use = 0; use < 6; use++) {
+            MarketRings x = Due.land("000");
+            x.step(0, 99);
+            for (int i = 0; i < 6; i++) {
+                x.use(0, 1, 0, 0, 9);
+            }
+            for (int market = 0; market < 3; market++) {
+                x.market(10 * market);
+                x.price(use, market, 3 + market);
+            }
+            Due.are("of use " + use, new long[] {x.falls(use, 2), x.falls(use, 3), x.falls(use, 4), x.falls(use, 5)}, 0, 1, 2, 3);
+            Due.is("of another one than " + use, x.falls((use + 1) % 6, 9999), 0);
+        }
     }
 
     private static void promise30NothingChanges() {
